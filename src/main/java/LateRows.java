@@ -620,7 +620,8 @@ public final class LateRows {
             if (i < 0 || i >= size) {
                 return null;
             }
-            Window w = at(placeOf(operator, key, Integer.MIN_VALUE) + i);
+            // no row has a time below 0, so that every begin is above -LONGEST
+            Window w = at(placeOf(operator, key, -LONGEST) + i);
             return w != null && w.belongsTo(operator, key) ? w : null;
         }
 

@@ -312,6 +312,14 @@ public final class PromisesTest {
         due("6 alone it would be closed, joined it is not", x.row(0, 0, 13, 1), 1);
         due("6 alone, closed", x.row(0, 2, 13, 1), 0);
         due("6 for 1", x.aside(0, 4), 1);
+
+        LateRows y = with(2, 5, 1, 10, 0);
+        y.row(0, 0, 20, 1);
+        y.row(0, 0, 15, 2);
+        due("6 side by side, the later first", y.count(3), 2);
+        dueAll("6 the earlier", window(y, 0, 0, 0), 15, 20, 0, 1, 2, 2, 2);
+        y.row(0, 0, 16, 3);
+        dueAll("6 one time in common", window(y, 0, 0, 0), 15, 25, 0, 3, 6, 1, 3);
     }
 
     private static void promise6GapsJoinedByBegins() {
@@ -389,6 +397,15 @@ public final class PromisesTest {
         y.promise(1, 200);
         due("6 gone", y.count(3), 114);
         due("6 aside needs no window", y.row(1, 0, 5, 0), 0);
+
+        LateRows z = with(1, 8, 1, 0, 0);
+        z.operator(0, 1, 1, 0, 0);
+        z.source(1);
+        for (int i = 0; i < 118; i++) z.row(1, 0, i, 0);
+        due("6 six of the eight become closed", z.promise(0, 1006), 0);
+        due("6 eight do not fit", z.row(0, 0, 1006, 0), -3);
+        due("6 closed ones need no room", z.row(0, 0, 1000, 0), 1);
+        due("6 120", z.count(3), 120);
     }
 
     private static void promise7Result() {
@@ -540,6 +557,14 @@ public final class PromisesTest {
         dueAll("13 by begins", window(x, 0, 4, 0), 0, 10, 1, 1, 2, 2, 2);
         dueAll("13 by begins", window(x, 0, 4, 1), 20, 30, 0, 2, -5, -6, 1);
         dueAll("13 another operator", window(x, 1, 4, 0), 0, 10, 0, 1, 77, 77, 77);
+        LateRows y = with(1, 1000000, 500000, 0, 0);
+        y.row(0, 0, 0, 1);
+        dueAll("13 the least begins", window(y, 0, 0, 0), -500000, 500000, 0, 1, 1, 1, 1);
+        dueAll("13 the least begins", window(y, 0, 0, 1), 0, 1000000, 0, 1, 1, 1, 1);
+        y.operator(1, 1000000, 142857, 0, 0);
+        y.source(1);
+        y.row(1, 0, 0, 1);
+        due("13 the least begin of all", y.window(1, 0, 0, 0), -999999);
         due("13 i", x.window(0, 4, 2, 0), NONE);
         due("13 i", x.window(0, 4, -1, 0), NONE);
         due("13 i", x.window(0, 4, Integer.MAX_VALUE, 0), NONE);
