@@ -826,14 +826,10 @@ public final class LateRows {
         private static final int MOST_PASSED = MOST_ROWS * MOST_OVERLAPS;
         private static final int KEY = 0, BEGIN = 1, END = 2, COUNT = 3, SUM = 4, LEAST = 5, GREATEST = 6;
 
-        // made by the first pass: most objects are never asked for one
-        private long[] cells = null;
+        private final long[] cells = new long[MOST_PASSED * PASSED_WIDTH];
         int size = 0;
 
         void clear() {
-            if (cells == null) {
-                cells = new long[MOST_PASSED * PASSED_WIDTH];
-            }
             size = 0;
         }
 
@@ -846,7 +842,7 @@ public final class LateRows {
         }
 
         long get(int i, int what) {
-            if (cells == null || i < 0 || i >= size || what < 0 || what >= PASSED_WIDTH) {
+            if (i < 0 || i >= size || what < 0 || what >= PASSED_WIDTH) {
                 return NONE;
             }
             return cells[i * PASSED_WIDTH + what];
@@ -886,7 +882,7 @@ public final class LateRows {
         }
 
         private void open(Row row, int begin, int end) {
-            if (cells == null || size >= MOST_PASSED) {
+            if (size >= MOST_PASSED) {
                 return;
             }
             int at = size * PASSED_WIDTH;
@@ -901,7 +897,7 @@ public final class LateRows {
         }
 
         private void comeInto(int i, int end, int v) {
-            if (cells == null || i < 0 || i >= size) {
+            if (i < 0 || i >= size) {
                 return;
             }
             int at = i * PASSED_WIDTH;

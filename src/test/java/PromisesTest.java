@@ -579,6 +579,10 @@ public final class PromisesTest {
 
     private static void promise14Pass() {
         LateRows x = with(1, 10, 5, 0, 0);
+        due("14 none yet", x.count(8), 0);
+        due("14 none yet", x.passed(0, 0), NONE);
+        due("14 no operator", x.pass(1, false), -1);
+        due("14 none yet", x.passed(0, 0), NONE);
         x.operator(2, 10, 1, 0, 0);
         x.source(1);
         x.row(0, 2, 12, 1);
