@@ -934,6 +934,28 @@ public final class BoundaryTest {
         due(y.promise(0, 125), 0);
     }
 
+    private static void joinedBesideOthers() {
+        sentence("Terms: JOINED ones alone are no more and TAKEN BACK (not the WINDOWS and KEYS beside them)");
+        Rows x = with(GAPS, 10, 1, 100, 0);
+        int[][] rows = {{0, 0}, {0, 60}, {1, 0}, {1, 20}, {1, 35}, {1, 60}, {1, 80}, {2, 0}, {2, 60}};
+        for (int n = 0; n < rows.length; n++) due(x.row(0, rows[n][0], rows[n][1], n), 1);
+        due(x.promise(0, 90), 9);
+        due(x.row(0, 1, 27, 100), 1);
+        due(x.count(5), 12);
+        dueAll(x.result(9), -1, 0, 1, 20, 30, 1, 3, 3, 3);
+        dueAll(x.result(10), -1, 0, 1, 35, 45, 1, 4, 4, 4);
+        dueAll(x.result(11), 1, 0, 1, 20, 45, 3, 107, 3, 100);
+        due(x.count(3), 8);
+        dueAll(x.window(0, 0, 0), 0, 10, 1, 1, 0, 0, 0);
+        dueAll(x.window(0, 0, 1), 60, 70, 1, 1, 1, 1, 1);
+        dueAll(x.window(0, 1, 0), 0, 10, 1, 1, 2, 2, 2);
+        dueAll(x.window(0, 1, 1), 20, 45, 1, 3, 107, 3, 100);
+        dueAll(x.window(0, 1, 2), 60, 70, 1, 1, 5, 5, 5);
+        dueAll(x.window(0, 1, 3), 80, 90, 1, 1, 6, 6, 6);
+        dueAll(x.window(0, 2, 0), 0, 10, 1, 1, 7, 7, 7);
+        dueAll(x.window(0, 2, 1), 60, 70, 1, 1, 8, 8, 8);
+    }
+
     private static void orderWhenTheMarkMoves() {
         sentence("Terms: first all that are to be TOLD, by ends, then KEYS");
         Rows x = with(GAPS, 10, 1, 0, 0);
@@ -1854,6 +1876,7 @@ public final class BoundaryTest {
         ruleOne();
         joinedWindowsAreNoMore();
         joinedWithWhatChanged();
+        joinedBesideOthers();
         orderWhenTheMarkMoves();
         keptResults();
         boundedAside();
