@@ -343,18 +343,19 @@ public final class ModelTest {
         final Model m = new Model();
         final List<String> calls = new ArrayList<>();
         final Set<String> seen;
-        final int askPercent, spread, keys, longest, pace, wildPercent;
+        final int askPercent, spread, keys, longest, pace, wildPercent, start;
         boolean good = true;
 
         Run(int seed, Set<String> seen) {
             random = new Random(seed);
             this.seen = seen;
             askPercent = new int[] {2, 10, 50}[below(3)];
-            spread = new int[] {12, 40, 200, 2000}[below(4)];
+            spread = new int[] {12, 40, 200, 2000, 2000000}[below(5)];
             keys = new int[] {1, 2, 10}[below(3)];
             longest = new int[] {3, 12, 40, 1000000}[below(4)];
-            pace = new int[] {1, 5, 40, 400}[below(4)];
+            pace = new int[] {1, 5, 40, 400, 300000}[below(5)];
             wildPercent = new int[] {0, 1, 5}[below(3)];
+            start = below(5) == 0 ? 100000000 - below(spread * 2) : 0;
         }
 
         int below(int n) {
@@ -381,6 +382,8 @@ public final class ModelTest {
         boolean go() {
             makeOperator();
             makeSource();
+            // some runs are near the greatest time from their first row on
+            if (start > 0) same("promise(0, " + start + ")", x.promise(0, start), m.promise(0, start));
             while (good && calls.size() < CALLS) {
                 if (below(100) < askPercent || calls.size() > CALLS - 60) ask();
                 else change();
@@ -392,7 +395,7 @@ public final class ModelTest {
             int kind = wild(below(3));
             int size = wild(1 + below(longest));
             int step = kind == 1 ? wild((size + 7) / 8 + below(Math.max(1, size / 2))) : wild(1 + below(5));
-            int lateness = wild(below(4) == 0 ? 0 : below(spread * 2));
+            int lateness = wild(below(4) == 0 ? 0 : below(Math.min(1000001, spread * 2)));
             int rule = wild(below(3));
             same("operator(" + kind + ", " + size + ", " + step + ", " + lateness + ", " + rule + ")",
                 x.operator(kind, size, step, lateness, rule), m.operator(kind, size, step, lateness, rule));
